@@ -31,35 +31,6 @@ public final class PromiseTest {
         check.end();
     }
 
-    /** A row of latches: 1 takes the input, 2 takes latch 1, 3 takes latch 2, 4 takes latch 3. */
-    private static InductionDesk shiftRegister() {
-        InductionDesk x = new InductionDesk();
-        x.next(1, 10);
-        x.next(2, 2);
-        x.next(3, 4);
-        x.next(4, 6);
-        return x;
-    }
-
-    /** Counts up by one with each step, from 15 to 0; gates 6 to 13. */
-    private static InductionDesk counter() {
-        InductionDesk x = new InductionDesk();
-        x.next(1, 3);
-        x.gate(2, 4);   // 6: latches 1 and 2
-        x.gate(3, 5);   // 7: neither
-        x.gate(13, 15); // 8: one of the two
-        x.next(2, 16);
-        x.gate(12, 6);  // 9: latches 1, 2 and 3
-        x.gate(13, 7);  // 10
-        x.gate(19, 21); // 11: latch 3 unlike gate 6
-        x.next(3, 22);
-        x.gate(18, 8);  // 12: all four
-        x.gate(19, 9);  // 13
-        x.gate(25, 27); // 14: latch 4 unlike gate 9
-        x.next(4, 28);
-        return x;
-    }
-
     private static void newObject() {
         check.part("promise 1");
         InductionDesk x = new InductionDesk();
@@ -243,7 +214,7 @@ public final class PromiseTest {
 
     private static void depth() {
         check.part("promise 7");
-        InductionDesk x = shiftRegister();
+        InductionDesk x = Circuits.shiftRegister();
         for (int latch = 1; latch <= 4; latch++) {
             x.bad(2 * latch);
             check.due("depth(6), bad " + 2 * latch, x.depth(6), latch);
@@ -260,7 +231,7 @@ public final class PromiseTest {
 
     private static void depthLimits() {
         check.part("promise 7, six and seven steps");
-        InductionDesk six = counter();
+        InductionDesk six = Circuits.counter();
         six.gate(5, 7); // 15: latches 2 and 3 are 0
         six.bad(30);
         six.begin(2, 1);
@@ -273,7 +244,7 @@ public final class PromiseTest {
         check.due("input(6)", six.input(6), 0);
         check.due("input(7)", six.input(7), -1);
 
-        InductionDesk seven = counter();
+        InductionDesk seven = Circuits.counter();
         seven.bad(8);
         seven.begin(1, 1);
         check.due("depth(6), seven steps away", seven.depth(6), -1);
@@ -289,7 +260,7 @@ public final class PromiseTest {
 
     private static void holds() {
         check.part("promise 8");
-        InductionDesk x = shiftRegister();
+        InductionDesk x = Circuits.shiftRegister();
         check.due("holds(7)", x.holds(7), -1);
         check.due("holds(-1)", x.holds(-1), -1);
         check.due("holds(MAX)", x.holds(MAX), -1);
@@ -307,7 +278,7 @@ public final class PromiseTest {
 
     private static void holdsLooksAtAllStates() {
         check.part("promise 8, from the beginning or not");
-        InductionDesk x = counter();
+        InductionDesk x = Circuits.counter();
         x.gate(26, 0); // 15
         x.bad(24);
         // Only 15 is bad; every state that comes before it counts, wherever the beginning is.
@@ -371,7 +342,7 @@ public final class PromiseTest {
         check.due("holds(6)", six.holds(6), 1);
         check.due("proof()", six.proof(), 6);
 
-        InductionDesk seven = counter();
+        InductionDesk seven = Circuits.counter();
         seven.gate(24, 24); // 15
         seven.bad(30);
         check.due("holds(6), counter", seven.holds(6), 0);
@@ -403,7 +374,7 @@ public final class PromiseTest {
 
     private static void witness() {
         check.part("promise 10");
-        InductionDesk x = shiftRegister();
+        InductionDesk x = Circuits.shiftRegister();
         x.bad(8);
         int[] states = {0, 1, 2, 4, 8};
         for (int i = 0; i <= 4; i++) {
@@ -436,7 +407,7 @@ public final class PromiseTest {
         check.due("witness(2)", x.witness(2), 6);
 
         // x0 goes before x1: bad after 01 or 10, so the first run is 01.
-        InductionDesk y = shiftRegister();
+        InductionDesk y = Circuits.shiftRegister();
         y.gate(2, 4);
         y.gate(3, 5);
         y.gate(13, 15);
@@ -464,7 +435,7 @@ public final class PromiseTest {
 
     private static void input() {
         check.part("promise 11");
-        InductionDesk x = shiftRegister();
+        InductionDesk x = Circuits.shiftRegister();
         x.bad(6);
         int[] inputs = {1, 0, 0, 0};
         for (int i = 0; i <= 3; i++) {
@@ -502,7 +473,7 @@ public final class PromiseTest {
 
     private static void refusalsChangeNothing() {
         check.part("refused calls");
-        InductionDesk x = shiftRegister();
+        InductionDesk x = Circuits.shiftRegister();
         x.bad(4);
         x.next(1, 12);
         x.next(1, -1);
