@@ -3,7 +3,7 @@ import java.util.List;
 import java.util.function.Supplier;
 import java.util.function.ToIntFunction;
 
-/** Everything that can be asked of an object, in 370 calls: within the 512 that it may be used for. */
+/** Asks an object for every part of its circuit, in 370 calls: within the 512 it may be used for. */
 final class Survey {
     private final List<String> calls = new ArrayList<>();
     private final List<Integer> answers = new ArrayList<>();
