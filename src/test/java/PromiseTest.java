@@ -8,30 +8,30 @@ public final class PromiseTest {
     }
 
     public static void main(String[] args) {
-        newObject();
-        gate();
-        gatesAtMostTen();
-        next();
-        begin();
-        bad();
-        value();
-        depth();
-        depthLimits();
-        holds();
-        holdsLooksAtAllStates();
-        holdsNeedsDifferentStates();
-        proof();
-        proofGreatest();
-        witness();
+        promise1NewObject();
+        promise2Gate();
+        promise2AtMostTen();
+        promise3Next();
+        promise4Begin();
+        promise5Bad();
+        promise6Value();
+        promise7Depth();
+        promise7Limits();
+        promise8Holds();
+        promise8LooksAtAllStates();
+        promise8NeedsDifferentStates();
+        promise9Proof();
+        promise9Greatest();
+        promise10Witness();
         orderOfRuns();
-        input();
+        promise11Input();
         badRunAvoidsBadBefore();
         refusalsChangeNothing();
         objectsAreApart();
         check.end();
     }
 
-    private static void newObject() {
+    private static void promise1NewObject() {
         check.part("promise 1");
         InductionDesk x = new InductionDesk();
         check.due("bad(0)", x.bad(0), 0);
@@ -58,7 +58,7 @@ public final class PromiseTest {
         }
     }
 
-    private static void gate() {
+    private static void promise2Gate() {
         check.part("promise 2");
         InductionDesk x = new InductionDesk();
         check.due("gate(12, 0)", x.gate(12, 0), -1);
@@ -82,7 +82,7 @@ public final class PromiseTest {
         check.due("value(16, 0, 0)", x.value(16, 0, 0), 1);
     }
 
-    private static void gatesAtMostTen() {
+    private static void promise2AtMostTen() {
         check.part("promise 2, ten gates");
         InductionDesk x = new InductionDesk();
         check.due("gate(2, 2)", x.gate(2, 2), 6);
@@ -98,7 +98,7 @@ public final class PromiseTest {
         check.due("value(32, 0, 0)", x.value(32, 0, 0), -1);
     }
 
-    private static void next() {
+    private static void promise3Next() {
         check.part("promise 3");
         InductionDesk x = new InductionDesk();
         check.due("next(0, 2)", x.next(0, 2), -1);
@@ -131,7 +131,7 @@ public final class PromiseTest {
         check.due("witness(1)", swap.witness(1), 2);
     }
 
-    private static void begin() {
+    private static void promise4Begin() {
         check.part("promise 4");
         InductionDesk x = new InductionDesk();
         check.due("begin(0, 0)", x.begin(0, 0), -1);
@@ -162,7 +162,7 @@ public final class PromiseTest {
         }
     }
 
-    private static void bad() {
+    private static void promise5Bad() {
         check.part("promise 5");
         InductionDesk x = new InductionDesk();
         check.due("bad(12)", x.bad(12), -1);
@@ -180,7 +180,7 @@ public final class PromiseTest {
         check.due("depth(6)", x.depth(6), -1);
     }
 
-    private static void value() {
+    private static void promise6Value() {
         check.part("promise 6");
         InductionDesk x = new InductionDesk();
         for (int state = 0; state <= 15; state++) {
@@ -212,7 +212,7 @@ public final class PromiseTest {
         check.due("value(MIN, 0, 0)", x.value(MIN, 0, 0), -1);
     }
 
-    private static void depth() {
+    private static void promise7Depth() {
         check.part("promise 7");
         InductionDesk x = Circuits.shiftRegister();
         for (int latch = 1; latch <= 4; latch++) {
@@ -229,7 +229,7 @@ public final class PromiseTest {
         check.due("depth(6), latch 2 either", x.depth(6), 2);
     }
 
-    private static void depthLimits() {
+    private static void promise7Limits() {
         check.part("promise 7, six and seven steps");
         InductionDesk six = Circuits.counter();
         six.gate(5, 7); // 15: latches 2 and 3 are 0
@@ -258,7 +258,7 @@ public final class PromiseTest {
         check.due("witness(0), from 3", seven.witness(0), 3);
     }
 
-    private static void holds() {
+    private static void promise8Holds() {
         check.part("promise 8");
         InductionDesk x = Circuits.shiftRegister();
         check.due("holds(7)", x.holds(7), -1);
@@ -276,7 +276,7 @@ public final class PromiseTest {
         check.due("holds(2), bad 4", x.holds(2), 0);
     }
 
-    private static void holdsLooksAtAllStates() {
+    private static void promise8LooksAtAllStates() {
         check.part("promise 8, from the beginning or not");
         InductionDesk x = Circuits.counter();
         x.gate(26, 0); // 15
@@ -289,7 +289,7 @@ public final class PromiseTest {
         check.due("depth(6)", x.depth(6), -1);
     }
 
-    private static void holdsNeedsDifferentStates() {
+    private static void promise8NeedsDifferentStates() {
         check.part("promise 8, different states");
         // Latch 1 waits at 0 until the input is 1: long bad runs must stay in one state.
         InductionDesk x = new InductionDesk();
@@ -308,7 +308,7 @@ public final class PromiseTest {
         check.due("input(0), still", still.input(0), 1);
     }
 
-    private static void proof() {
+    private static void promise9Proof() {
         check.part("promise 9");
         InductionDesk x = new InductionDesk();
         check.due("proof(), nothing bad", x.proof(), 0);
@@ -333,7 +333,7 @@ public final class PromiseTest {
         check.due("proof(), latch 4 begins 1", x.proof(), -1);
     }
 
-    private static void proofGreatest() {
+    private static void promise9Greatest() {
         check.part("promise 9, k = 6 and above");
         // The longest way into the bad state 7 begins in 2 and has five steps.
         InductionDesk six = chainUpToSeven();
@@ -372,7 +372,7 @@ public final class PromiseTest {
         return x;
     }
 
-    private static void witness() {
+    private static void promise10Witness() {
         check.part("promise 10");
         InductionDesk x = Circuits.shiftRegister();
         x.bad(8);
@@ -433,7 +433,7 @@ public final class PromiseTest {
         check.due("input(0), state before input", z.input(0), 1);
     }
 
-    private static void input() {
+    private static void promise11Input() {
         check.part("promise 11");
         InductionDesk x = Circuits.shiftRegister();
         x.bad(6);
